@@ -173,7 +173,7 @@ public final class DebtNet {
     public int gonality(int net) {
         Net found = findNet(net);
         int refusal = whyNoRank(found);
-        if (refusal != 0) {
+        if (found == null || refusal != 0) {
             return refuse(refusal);
         }
         reducer.prepare(found, 0);
@@ -193,9 +193,6 @@ public final class DebtNet {
         Net found = findNet(net);
         if (found == null) {
             return refuse(BEYOND);
-        }
-        if (bookCount >= MOST_BOOKS) {
-            return refuse(FULL);
         }
         clearDraft();
         return addBook(found);
@@ -284,9 +281,6 @@ public final class DebtNet {
         if (found == null) {
             return refuse(BEYOND);
         }
-        if (bookCount >= MOST_BOOKS) {
-            return refuse(FULL);
-        }
         clearDraft();
         for (int post = 0; post < found.posts; post++) {
             draft[post] = found.roadsOf(post) - 2;
@@ -303,9 +297,6 @@ public final class DebtNet {
         }
         if (first.net.number != second.net.number) {
             return refuse(NO);
-        }
-        if (bookCount >= MOST_BOOKS) {
-            return refuse(FULL);
         }
         draftOfTwo(first, second, less ? -1 : 1);
         if (!draftFits()) {
@@ -357,7 +348,7 @@ public final class DebtNet {
         Book first = findBook(book);
         Book second = findBook(other);
         int refusal = whyNotLed(first, second);
-        if (refusal != 0) {
+        if (first == null || second == null || refusal != 0) {
             return refuse(refusal);
         }
         return findWay(first, second) ? 1 : 0;
@@ -368,7 +359,7 @@ public final class DebtNet {
         Book first = findBook(book);
         Book second = findBook(other);
         int refusal = whyNotLed(first, second);
-        if (refusal != 0) {
+        if (first == null || second == null || refusal != 0) {
             return refuse(refusal);
         }
         if (!findWay(first, second)) {
@@ -606,9 +597,10 @@ public final class DebtNet {
         return reducer.clears(draft);
     }
 
+    /** A book of the numbers in the draft comes, if there is room: its number. */
     private int addBook(Net net) {
         if (bookCount >= MOST_BOOKS) {
-            return FULL;
+            return refuse(FULL);
         }
         Book added = new Book(net);
         added.takeFrom(draft);
@@ -865,10 +857,12 @@ public final class DebtNet {
             return common;
         }
 
-        /** The determinant of these lines and columns (bits, as many of each); 1 of none. */
+        /**
+         * The determinant of these lines and columns (bits, as many of each); 1 of none. It is told
+         * without its sign: what it is asked for is a count or is divided.
+         */
         long determinant(Net net, int lines, int columns) {
             int size = fill(net, lines, columns);
-            long sign = 1;
             long before = 1;
             for (int step = 0; step + 1 < size; step++) {
                 int pivot = pivotLine(step, size);
@@ -877,12 +871,11 @@ public final class DebtNet {
                 }
                 if (pivot != step) {
                     swapLines(pivot, step);
-                    sign = -sign;
                 }
                 clearBelow(step, size, before);
                 before = cells[step * MOST_POSTS + step];
             }
-            return size == 0 ? 1 : sign * cells[(size - 1) * MOST_POSTS + size - 1];
+            return size == 0 ? 1 : Math.abs(cells[(size - 1) * MOST_POSTS + size - 1]);
         }
 
         private int fill(Net net, int lines, int columns) {
@@ -957,9 +950,9 @@ public final class DebtNet {
             trees = table.determinant(net, others, others);
             for (int post = 0; post < net.posts; post++) {
                 for (int other = post; other < net.posts; other++) {
-                    // A share counts forests, so it is never below 0: the sign need not be kept.
-                    long share = post == base || other == base ? 0 : Math.abs(table.determinant(
-                            net, others & ~(1 << post), others & ~(1 << other)));
+                    // A share counts forests, so it is never below 0.
+                    long share = post == base || other == base ? 0
+                            : table.determinant(net, others & ~(1 << post), others & ~(1 << other));
                     shares[post * MOST_POSTS + other] = (int) share;
                     shares[other * MOST_POSTS + post] = (int) share;
                 }
