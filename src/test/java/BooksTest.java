@@ -218,7 +218,7 @@ public final class BooksTest {
     }
 
     private static void greatSums(int first, int second, boolean less, boolean fits) {
-        Consumer<DebtNet> two = Settings.all(6, 4).andThen(heap(first)).andThen(heap(second));
+        Consumer<DebtNet> two = Settings.all(6, 4).andThen(Settings.heap(first)).andThen(Settings.heap(second));
         String name = "sum of " + first + (less ? " less " : " and ") + second;
         Check.due(name + ": the first", Settings.made(two).at(0, 0), first);
         Check.due(name + ": the second", Settings.made(two).at(1, 0), second);
@@ -229,20 +229,6 @@ public final class BooksTest {
         } else {
             Check.refused(name, two, x -> x.sum(0, 1, less), DebtNet.FULL);
         }
-    }
-
-    /** A book with this number at post 0: 100 borrows bring 2000 there along all roads of the fullest net. */
-    private static Consumer<DebtNet> heap(int number) {
-        return x -> {
-            int book = x.book(0);
-            x.put(book, 0, number % 2000);
-            for (int call = 0; call < Math.abs(number) / 2000; call++) {
-                x.lend(book, 0, number < 0 ? 100 : -100);
-            }
-            for (int post = 1; post < 6; post++) {
-                x.put(book, post, 0);
-            }
-        };
     }
 
     private static void promise19() {

@@ -16,6 +16,10 @@ final class Check {
         part = name;
     }
 
+    static int count() {
+        return checks;
+    }
+
     static void due(String call, long got, long want) {
         checks++;
         if (got != want) {
@@ -74,24 +78,26 @@ final class Check {
         return counts;
     }
 
-    /** All that can be seen of nets, books and the row; it may add to the counts of row()'s refusals. */
+    /**
+     * All that can be seen of nets, books and the row, in few calls, as an object has but 512 of them;
+     * it may add to the counts of refusals.
+     */
     static String state(DebtNet x) {
         StringBuilder state = new StringBuilder();
-        for (int net = 0; net < x.count(0); net++) {
-            state.append("net").append(net).append(" of ").append(x.look(net, 1)).append(':');
-            for (int a = 0; a < x.look(net, 1); a++) {
+        int nets = x.count(0);
+        for (int net = 0; net < nets; net++) {
+            int posts = x.look(net, 1);
+            state.append("net").append(net).append(" of ").append(posts).append(':');
+            for (int a = 0; a < posts; a++) {
                 for (int b = 0; b < a; b++) {
                     state.append(' ').append(x.roads(net, a, b));
                 }
             }
             state.append('\n');
         }
-        for (int book = 0; book < x.count(1); book++) {
-            state.append("book").append(book).append(':');
-            for (int post = 0; post < 6; post++) {
-                state.append(' ').append(x.at(book, post));
-            }
-            state.append('\n');
+        int books = x.count(1);
+        for (int book = 0; book < books; book++) {
+            state.append("book").append(book).append(": ").append(book(x, book, 6)).append('\n');
         }
         return state.append("row: ").append(row(x)).toString();
     }
@@ -99,14 +105,16 @@ final class Check {
     static String row(DebtNet x) {
         StringBuilder row = new StringBuilder();
         for (int i = 0; i < 7; i++) {
-            int missing = x.status(-2);
-            int beyond = x.status(-3);
-            int number = x.row(i);
-            if (x.status(-2) != missing) {
+            // No number copied: it changes nothing, and tells whether the row is as long as that.
+            int there = x.copy(i, i, 0);
+            if (there == DebtNet.MISSING) {
                 return "missing";
             }
-            if (x.status(-3) == beyond) {
-                row.append(number).append(' ');
+            if (there == DebtNet.COPY) {
+                break;
+            }
+            if (i > 0) {
+                row.append(x.row(i - 1)).append(' ');
             }
         }
         return row.toString().trim();
