@@ -100,6 +100,7 @@ final class ReducingEdges {
             Check.refused("a post beyond, not whole", BENCH, x -> x.reduce(2, wrong), DebtNet.BEYOND);
         }
         Check.refused("not whole, a number beyond", Settings.greatOn(Settings.net(3, "1"), 99999, 2), x -> x.reduce(9, 0), DebtNet.KIND);
+        Check.refused("not whole, a debt beyond", Settings.greatOn(Settings.net(3, "1"), -100000, -1), x -> x.reduce(9, 0), DebtNet.KIND);
         Check.refused("a post beyond, a number beyond", Settings.great(99999, 2), x -> x.reduce(9, 2), DebtNet.BEYOND);
     }
 
